@@ -484,7 +484,6 @@ public final class OhmNets {
             this.k = k;
         }
 
-        @Override
         int measure(Fraction ohms) {
             int asked = super.measure(ohms);
             ohms.upper *= k;
@@ -500,7 +499,6 @@ public final class OhmNets {
             this.m = m;
         }
 
-        @Override
         int measure(Fraction ohms) {
             int asked = super.measure(ohms);
             ohms.lower *= m;
@@ -711,7 +709,8 @@ public final class OhmNets {
                     }
                 }
             }
-            return neighbours[a] == 1 << b && neighbours[b] == 1 << a && (linkedKnots() & ~ends) == 0;
+            // What is left hangs together with a and b, so another WIRE would show at one of them.
+            return neighbours[a] == 1 << b && neighbours[b] == 1 << a;
         }
 
         /** Bits hold WIRES between the same two KNOTS as one. */
@@ -743,14 +742,6 @@ public final class OhmNets {
                 int high = Integer.numberOfTrailingZeros(others & ~(1 << low));
                 link(low, high);
             }
-        }
-
-        private int linkedKnots() {
-            int linked = 0;
-            for (int knot = 0; knot < KNOTS; knot++) {
-                linked |= neighbours[knot];
-            }
-            return linked;
         }
     }
 

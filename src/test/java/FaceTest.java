@@ -119,8 +119,7 @@ public final class FaceTest {
             Due.holds("import " + imports.group(1), Set.of("java.util.ArrayList", "java.util.List",
                 "java.util.Arrays", "java.util.Iterator").contains(imports.group(1)));
         }
-        for (int i = 0; i < text.length(); i++) {
-            Due.holds("a character above 255", text.charAt(i) <= 255);
-        }
+        Due.holds("no character above 255", text.chars().allMatch(c -> c <= 255));
+        Due.holds("no annotation", !code.contains("@"));
     }
 }

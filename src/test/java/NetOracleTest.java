@@ -5,103 +5,124 @@ import java.util.List;
 public final class NetOracleTest {
     private static final int KNOTS = 6;
 
+    // The net as it is told, one wire a line: kind, first, second, k, m.
+    private static int[][] wires;
     private static int[] firsts;
     private static int[] seconds;
     private static Ratio[] ohms;
     private static String told;
 
+    private static OhmNets current;
+    private static int callsLeft;
+
     public static void main(String[] args) {
         Numbers numbers = new Numbers(2026);
         for (int run = 0; run < 900; run++) {
-            OhmNets x = anyNet(numbers, numbers.from(1, 12), numbers.from(2, KNOTS), run % 4 == 0);
-            checkNet(x, numbers);
+            anyNet(numbers, numbers.from(1, 12), numbers.from(2, KNOTS), run % 4 == 0);
+            checkNet(numbers);
         }
-        checkNet(largestNumbers(1, 4), numbers);
-        checkNet(largestNumbers(4, 1), numbers);
-        checkNet(largestNumbers(3, 4), numbers);
-        checkNet(largestNumbers(4, 3), numbers);
+        int[][] factors = {{1, 4}, {4, 1}, {3, 4}, {4, 3}};
+        for (int[] factor : factors) {
+            largestNumbers(factor[0], factor[1]);
+            checkNet(numbers);
+        }
         Due.end();
     }
 
-    private static OhmNets anyNet(Numbers numbers, int wires, int knots, boolean allThick) {
-        OhmNets x = new OhmNets();
-        start(wires);
-        for (int w = 0; w < wires; w++) {
+    private static void anyNet(Numbers numbers, int count, int knots, boolean allThick) {
+        start(count);
+        for (int w = 0; w < count; w++) {
             int first = numbers.below(knots);
             int second = (first + numbers.from(1, knots - 1)) % knots;
             int kind = allThick ? 2 : numbers.below(3);
-            put(x, w, new int[] {kind, first, second, numbers.from(1, 4), numbers.from(1, 4)});
+            tell(w, new int[] {kind, first, second, numbers.from(1, 4), numbers.from(1, 4)});
         }
-        return x;
     }
 
     /** An octahedron has the most trees that twelve WIRES can have. */
-    private static OhmNets largestNumbers(int k, int m) {
-        OhmNets x = new OhmNets();
+    private static void largestNumbers(int k, int m) {
         start(12);
         int w = 0;
         for (int a = 0; a < KNOTS; a++) {
             for (int b = a + 1; b < KNOTS; b++) {
                 if (a + b != 5) {
                     boolean other = w % 5 == 4;
-                    put(x, w, new int[] {2, a, b, other ? m : k, other ? k : m});
+                    tell(w, new int[] {2, a, b, other ? m : k, other ? k : m});
                     w++;
                 }
             }
         }
-        return x;
     }
 
-    private static void start(int wires) {
-        firsts = new int[wires];
-        seconds = new int[wires];
-        ohms = new Ratio[wires];
+    private static void start(int count) {
+        wires = new int[count][];
+        firsts = new int[count];
+        seconds = new int[count];
+        ohms = new Ratio[count];
         told = "";
+        callsLeft = 0;
     }
 
-    private static void put(OhmNets x, int w, int[] wire) {
+    private static void tell(int w, int[] wire) {
         int kind = wire[0];
+        wires[w] = wire;
         firsts[w] = wire[1];
         seconds[w] = wire[2];
         ohms[w] = Ratio.of(kind >= 1 ? wire[3] : 1, kind == 2 ? wire[4] : 1);
         told += " " + firsts[w] + "-" + seconds[w] + ":" + ohms[w];
-        Due.due("wire" + told, x.wire(kind, wire[1], wire[2], wire[3], wire[4]), w);
     }
 
-    private static void checkNet(OhmNets x, Numbers numbers) {
-        for (int w = 0; w < ohms.length; w++) {
-            Due.due("ohms UPPER," + told, x.ohms(w, 0), ohms[w].part(0));
-            Due.due("ohms LOWER," + told, x.ohms(w, 1), ohms[w].part(1));
+    /** An object with this net that has calls left: one is promised to answer 512. */
+    private static OhmNets x() {
+        if (callsLeft == 0) {
+            current = new OhmNets();
+            for (int w = 0; w < wires.length; w++) {
+                // A wire that is gone again must leave nothing behind.
+                Due.due("wire to cut," + told, current.wire(1, w % KNOTS, (w + 1) % KNOTS, 3, 0), w);
+                Due.due("cut," + told, current.cut(), w);
+                int[] wire = wires[w];
+                Due.due("wire," + told, current.wire(wire[0], wire[1], wire[2], wire[3], wire[4]), w);
+            }
+            callsLeft = 512 - 3 * wires.length;
         }
-        Due.due("trees," + told, x.trees(), countTrees());
+        callsLeft--;
+        return current;
+    }
+
+    private static void checkNet(Numbers numbers) {
+        for (int w = 0; w < ohms.length; w++) {
+            Due.due("ohms UPPER," + told, x().ohms(w, 0), ohms[w].part(0));
+            Due.due("ohms LOWER," + told, x().ohms(w, 1), ohms[w].part(1));
+        }
+        Due.due("trees," + told, x().trees(), countTrees());
         for (int a = 0; a < KNOTS; a++) {
             for (int b = 0; b < KNOTS; b++) {
                 if (a == b) {
                     continue;
                 }
                 if (group()[a] != group()[b]) {
-                    Due.due("between apart," + told, x.between(a, b, 0), -2);
-                    Due.due("through apart," + told, x.through(0, a, b, 0), Long.MIN_VALUE);
-                    Due.due("falls apart," + told, x.falls(a, b), OhmNets.STATE);
+                    Due.due("between apart," + told, x().between(a, b, 0), -2);
+                    Due.due("through apart," + told, x().through(0, a, b, 0), Long.MIN_VALUE);
+                    Due.due("falls apart," + told, x().falls(a, b), OhmNets.STATE);
                 } else {
-                    checkPair(x, a, b);
+                    checkPair(a, b);
                     String call = "falls(" + a + ", " + b + ")," + told;
-                    Due.due(call, x.falls(a, b), fallsInAnyOrder(a, b, numbers) ? 1 : 0);
+                    Due.due(call, x().falls(a, b), fallsInAnyOrder(a, b, numbers) ? 1 : 0);
                 }
             }
         }
     }
 
-    private static void checkPair(OhmNets x, int a, int b) {
+    private static void checkPair(int a, int b) {
         Ratio[] heights = heights(a, b);
         Ratio share = heights[a].minus(heights[b]);
         String pair = a + " to " + b + "," + told;
-        Due.due("between UPPER " + pair, x.between(a, b, 0), share.part(0));
-        Due.due("between LOWER " + pair, x.between(a, b, 1), share.part(1));
+        Due.due("between UPPER " + pair, x().between(a, b, 0), share.part(0));
+        Due.due("between LOWER " + pair, x().between(a, b, 1), share.part(1));
         for (int w = 0; w < ohms.length; w++) {
             Ratio flow = heights[firsts[w]].minus(heights[seconds[w]]).by(ohms[w]);
-            Due.due("through UPPER " + w + " " + pair, x.through(w, a, b, 0), flow.part(0));
-            Due.due("through LOWER " + w + " " + pair, x.through(w, a, b, 1), flow.part(1));
+            Due.due("through UPPER " + w + " " + pair, x().through(w, a, b, 0), flow.part(0));
+            Due.due("through LOWER " + w + " " + pair, x().through(w, a, b, 1), flow.part(1));
         }
     }
 
@@ -207,37 +228,37 @@ public final class NetOracleTest {
     /** Does one step after the other, whichever the numbers say, on WIRES that are kept one by one. */
     private static boolean fallsInAnyOrder(int a, int b, Numbers numbers) {
         int[] group = group();
-        List<int[]> wires = new ArrayList<>();
+        List<int[]> left = new ArrayList<>();
         for (int w = 0; w < ohms.length; w++) {
             if (group[firsts[w]] == group[a]) {
-                wires.add(new int[] {firsts[w], seconds[w]});
+                left.add(new int[] {firsts[w], seconds[w]});
             }
         }
         while (true) {
-            List<int[]> steps = steps(wires, a, b);
+            List<int[]> steps = steps(left, a, b);
             if (steps.isEmpty()) {
                 break;
             }
             int[] step = steps.get(numbers.below(steps.size()));
-            doStep(wires, step);
+            doStep(left, step);
         }
-        return wires.size() == 1 && (wires.get(0)[0] == a && wires.get(0)[1] == b
-            || wires.get(0)[0] == b && wires.get(0)[1] == a);
+        return left.size() == 1 && (left.get(0)[0] == a && left.get(0)[1] == b
+            || left.get(0)[0] == b && left.get(0)[1] == a);
     }
 
     /** A step: the lower WIRE, the higher WIRE or -1, and the KNOT that a row of both goes through or -1. */
-    private static List<int[]> steps(List<int[]> wires, int a, int b) {
+    private static List<int[]> steps(List<int[]> left, int a, int b) {
         List<int[]> steps = new ArrayList<>();
         int[] ends = new int[KNOTS];
-        for (int i = 0; i < wires.size(); i++) {
-            int[] one = wires.get(i);
+        for (int i = 0; i < left.size(); i++) {
+            int[] one = left.get(i);
             ends[one[0]]++;
             ends[one[1]]++;
             if (one[0] == one[1]) {
                 steps.add(new int[] {i, -1, -1});
             }
-            for (int k = i + 1; k < wires.size(); k++) {
-                int[] other = wires.get(k);
+            for (int k = i + 1; k < left.size(); k++) {
+                int[] other = left.get(k);
                 if (one[0] == other[0] && one[1] == other[1] || one[0] == other[1] && one[1] == other[0]) {
                     steps.add(new int[] {i, -1, -1});
                 }
@@ -248,8 +269,8 @@ public final class NetOracleTest {
                 continue;
             }
             List<Integer> at = new ArrayList<>();
-            for (int i = 0; i < wires.size(); i++) {
-                if (wires.get(i)[0] == knot || wires.get(i)[1] == knot) {
+            for (int i = 0; i < left.size(); i++) {
+                if (left.get(i)[0] == knot || left.get(i)[1] == knot) {
                     at.add(i);
                 }
             }
@@ -263,14 +284,14 @@ public final class NetOracleTest {
         return steps;
     }
 
-    private static void doStep(List<int[]> wires, int[] step) {
+    private static void doStep(List<int[]> left, int[] step) {
         if (step[1] < 0) {
-            wires.remove(step[0]);
+            left.remove(step[0]);
             return;
         }
-        int[] higher = wires.remove(step[1]);
-        int[] lower = wires.remove(step[0]);
+        int[] higher = left.remove(step[1]);
+        int[] lower = left.remove(step[0]);
         int knot = step[2];
-        wires.add(new int[] {lower[0] == knot ? lower[1] : lower[0], higher[0] == knot ? higher[1] : higher[0]});
+        left.add(new int[] {lower[0] == knot ? lower[1] : lower[0], higher[0] == knot ? higher[1] : higher[0]});
     }
 }
