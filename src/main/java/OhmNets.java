@@ -370,7 +370,7 @@ public final class OhmNets {
             int high = inOrder.size();
             for (int step = 0; step < MOST_HALVINGS && low < high; step++) {
                 int middle = (low + high) / 2;
-                if (compare(inOrder.get(middle), u, d) < 0) {
+                if (difference(inOrder.get(middle), u, d) < 0) {
                     low = middle + 1;
                 } else {
                     high = middle;
@@ -380,11 +380,12 @@ public final class OhmNets {
         }
 
         private boolean isAt(int place, int u, int d) {
-            return place < inOrder.size() && compare(inOrder.get(place), u, d) == 0;
+            return place < inOrder.size() && difference(inOrder.get(place), u, d) == 0;
         }
 
-        private static int compare(Share share, int u, int d) {
-            return Long.compare((long) share.upper * d, (long) u * share.lower);
+        /** The share less u by d, times both lower numbers. */
+        private static long difference(Share share, int u, int d) {
+            return (long) share.upper * d - (long) u * share.lower;
         }
     }
 

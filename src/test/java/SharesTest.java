@@ -10,8 +10,6 @@ public final class SharesTest {
     private static final int[] WRONG_TOLD = {0, -1, 1000001, Integer.MIN_VALUE, Integer.MAX_VALUE};
 
     private static final List<List<Ratio>> shares = new ArrayList<>();
-    private static OhmNets current;
-    private static int callsLeft = 0;
 
     public static void main(String[] args) {
         findShares();
@@ -25,14 +23,8 @@ public final class SharesTest {
         Due.end();
     }
 
-    /** An object that has calls left: one is promised to answer 512. */
     private static OhmNets x() {
-        if (callsLeft == 0) {
-            current = new OhmNets();
-            callsLeft = 512;
-        }
-        callsLeft--;
-        return current;
+        return Fresh.x();
     }
 
     private static void findShares() {
@@ -215,7 +207,7 @@ public final class SharesTest {
             Due.due("new, made(" + n + ", last, 0)", new OhmNets().made(n, last, 0), n == 1 ? 0 : 1);
             Due.due("new, turned(" + n + ", 0)", new OhmNets().turned(n, 0), last);
         }
-        callsLeft = 0;
+        Fresh.renew();
         for (int n = MOST; n >= 1; n--) {
             Due.due("from above, many(" + n + ")", x().many(n), MANY[n - 1]);
         }

@@ -4,8 +4,14 @@ final class Due {
 
     private static long asked = 0;
     private static int wrong = 0;
+    private static String heading = "";
 
     private Due() {
+    }
+
+    /** What is printed ahead of each fault from now on. */
+    static void under(String newHeading) {
+        heading = newHeading;
     }
 
     static void due(String call, long got, long want) {
@@ -25,7 +31,7 @@ final class Due {
     private static void fault(String what) {
         wrong++;
         if (wrong <= MOST_PRINTED) {
-            System.out.println(what);
+            System.out.println(heading + what);
         }
     }
 
