@@ -30,6 +30,7 @@ public final class EdgeNetTest {
         betweenLeastAndLargest();
         betweenLeastForm();
         betweenLargestNumbers();
+        betweenManyTrees();
         betweenRefused();
         betweenApart();
         betweenBadAheadOfState();
@@ -52,6 +53,7 @@ public final class EdgeNetTest {
         fallsNot();
         fallsInWhicheverOrder();
         fallsAskedAgain();
+        fallsAfterACut();
         fallsRefused();
         fallsApart();
         fallsBadAheadOfState();
@@ -174,8 +176,7 @@ public final class EdgeNetTest {
     }
 
     private static void wireBadAheadOfFull() {
-        Sentence.of(8, "Refused, and nothing changes, the first of these: BAD (a number is not as told, or there is no such "
-            + "thing), STATE (as told), FULL.");
+        Sentence.of(8, Sentence.REFUSED_FIRST);
         Refused.in(State.FULL, "KIND 3, of a full net", OhmNets.BAD, x -> x.wire(3, 0, 1, 1, 1));
         Refused.in(State.FULL, "KNOT 6 first, of a full net", OhmNets.BAD, x -> x.wire(0, 6, 1, 1, 1));
         Refused.in(State.FULL, "KNOT 6 second, of a full net", OhmNets.BAD, x -> x.wire(0, 1, 6, 1, 1));
@@ -351,6 +352,33 @@ public final class EdgeNetTest {
         checkBetween(x, 4, 5, 209797836, 548317513);
     }
 
+    /** The answers are small, but the 384 TREES of WIRES of 1 / 4 behind them make numbers that no int holds. */
+    private static void betweenManyTrees() {
+        Sentence.of(12, "BETWEEN two KNOTS that hang together THE NET has a SHARE, as wires have it");
+        OhmNets x = octahedron(1, 4);
+        OhmNets y = octahedron(4, 1);
+        for (int a = 0; a <= 5; a++) {
+            for (int b = a + 1; b <= 5; b++) {
+                boolean across = a + b == 5;
+                checkBetween(x, a, b, across ? 1 : 5, across ? 8 : 48);
+                checkBetween(y, a, b, across ? 2 : 5, across ? 1 : 3);
+            }
+        }
+    }
+
+    /** Twelve WIRES of the KIND THICK: each KNOT with all others but the one across. */
+    private static OhmNets octahedron(int k, int m) {
+        OhmNets x = new OhmNets();
+        for (int a = 0; a <= 5; a++) {
+            for (int b = a + 1; b <= 5; b++) {
+                if (a + b != 5) {
+                    x.wire(2, a, b, k, m);
+                }
+            }
+        }
+        return x;
+    }
+
     private static void betweenRefused() {
         Sentence.of(12, "-1: BAD");
         for (int knot : NO_KNOT) {
@@ -380,8 +408,7 @@ public final class EdgeNetTest {
     }
 
     private static void betweenBadAheadOfState() {
-        Sentence.of(12, "Refused, and nothing changes, the first of these: BAD (a number is not as told, or there is no such "
-            + "thing), STATE (as told), FULL.");
+        Sentence.of(12, Sentence.REFUSED_FIRST);
         for (int part : NO_BIT) {
             Refused.in(State.SOME, "apart: between(0, 5, " + part + ")", -1, x -> x.between(0, 5, part));
             Refused.in(State.NEW, "apart: between(0, 5, " + part + ")", -1, x -> x.between(0, 5, part));
@@ -441,6 +468,9 @@ public final class EdgeNetTest {
         checkThrough(x, 0, 1, 5, -162153225, 548317513);
         checkThrough(x, 2, 2, 5, 894832, 5323471);
         checkThrough(x, 1, 3, 4, 51326361, 548317513);
+        // WIRES 0 and 3 of an octahedron go from KNOT 0 to 1 and to 4, which are across from each other.
+        checkThrough(octahedron(1, 4), 0, 0, 1, 5, 12);
+        checkThrough(octahedron(1, 4), 3, 0, 1, 1, 6);
     }
 
     private static void throughRefused() {
@@ -513,18 +543,13 @@ public final class EdgeNetTest {
         Due.due("a row over all KNOTS", ones(0, 1, 1, 2, 2, 3, 3, 4, 4, 5).trees(), 1);
         Due.due("a ring over all KNOTS", ones(0, 1, 1, 2, 2, 3, 3, 4, 4, 5, 5, 0).trees(), 6);
         OhmNets side = new OhmNets();
-        OhmNets octahedron = new OhmNets();
-        for (int a = 0; a < 6; a++) {
+        for (int pair = 0; pair < 6; pair++) {
             side.wire(2, 0, 5, 1, 4);
             side.wire(1, 5, 0, 4, 1);
-            for (int b = a + 1; b < 6; b++) {
-                if (a + b != 5) {
-                    octahedron.wire(2, a, b, 1 + a % 4, 1 + b % 4);
-                }
-            }
         }
         Due.due("twelve side by side", side.trees(), 12);
-        Due.due("an octahedron", octahedron.trees(), 384);
+        Due.due("an octahedron", octahedron(1, 4).trees(), 384);
+        Due.due("an octahedron of other OHMS", octahedron(4, 3).trees(), 384);
     }
 
     private static void fallsToOneWire() {
@@ -641,10 +666,33 @@ public final class EdgeNetTest {
                 }
             }
         }
-        x.cut();
-        x.cut();
-        Due.due("when a WIRE of the bridge is gone, falls(0, 3)", x.falls(0, 3), 1);
-        Due.due("when its WIRE is gone, falls(4, 5)", x.falls(4, 5), OhmNets.STATE);
+    }
+
+    private static void fallsAfterACut() {
+        Sentence.of(15, "Whether THE NET FALLS TOGETHER between two KNOTS.");
+        for (int shift = 0; shift <= 5; shift++) {
+            int a = shift;
+            int b = (shift + 1) % 6;
+            int c = (shift + 2) % 6;
+            int d = (shift + 3) % 6;
+            checkCuts(a, d, a, b, a, c, b, d, c, d, b, c);
+        }
+    }
+
+    /** A net that does not fall together, but does without any one of its WIRES. */
+    private static void checkCuts(int a, int b, int... knots) {
+        for (int latest = 0; latest < knots.length; latest += 2) {
+            OhmNets x = new OhmNets();
+            for (int i = 2; i <= knots.length; i += 2) {
+                addOnes(x, knots[(latest + i) % knots.length], knots[(latest + i + 1) % knots.length]);
+            }
+            for (int ask = 0; ask < 2; ask++) {
+                Due.due("a bridge, falls(" + a + ", " + b + ")", x.falls(a, b), 0);
+                x.cut();
+                Due.due("when one of its WIRES is cut, falls(" + a + ", " + b + ")", x.falls(a, b), 1);
+                addOnes(x, knots[latest], knots[latest + 1]);
+            }
+        }
     }
 
     private static void fallsRefused() {
@@ -670,8 +718,7 @@ public final class EdgeNetTest {
     }
 
     private static void fallsBadAheadOfState() {
-        Sentence.of(15, "Refused, and nothing changes, the first of these: BAD (a number is not as told, or there is no such "
-            + "thing), STATE (as told), FULL.");
+        Sentence.of(15, Sentence.REFUSED_FIRST);
         Refused.in(State.SOME, "falls(5, 5), without WIRES", OhmNets.BAD, x -> x.falls(5, 5));
         Refused.in(State.SOME, "falls(5, 6)", OhmNets.BAD, x -> x.falls(5, 6));
         Refused.in(State.NEW, "falls(-1, 0)", OhmNets.BAD, x -> x.falls(-1, 0));

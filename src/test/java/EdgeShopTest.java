@@ -1,8 +1,5 @@
 /** Promises 16 to 20: a test for each sentence that names a least, a largest, an empty, a full or a refused thing. */
 public final class EdgeShopTest {
-    private static final String REFUSED_FIRST = "Refused, and nothing changes, the first of these: BAD (a number is not as "
-        + "told, or there is no such thing), STATE (as told), FULL.";
-
     private static final int[] NO_OHMS = {0, -1, -100, 101, 256 + 5, 65536 + 5, Integer.MIN_VALUE, Integer.MAX_VALUE};
     private static final int[] NO_PRICE = {0, -1, -50, 51, 256 + 5, 65536 + 5, Integer.MIN_VALUE, Integer.MAX_VALUE};
     private static final int[] NOT_TOLD = {0, -1, -1000, 1001, 65536 + 5, Integer.MIN_VALUE, Integer.MIN_VALUE + 1,
@@ -89,7 +86,7 @@ public final class EdgeShopTest {
     }
 
     private static void sortBadAheadOfFull() {
-        Sentence.of(16, REFUSED_FIRST);
+        Sentence.of(16, Sentence.REFUSED_FIRST);
         Refused.in(State.FULL, "sort(0, 1) of a full shop", OhmNets.BAD, x -> x.sort(0, 1));
         Refused.in(State.FULL, "sort(101, 1) of a full shop", OhmNets.BAD, x -> x.sort(101, 1));
         Refused.in(State.FULL, "sort(1, 0) of a full shop", OhmNets.BAD, x -> x.sort(1, 0));
@@ -168,7 +165,7 @@ public final class EdgeShopTest {
     }
 
     private static void nearestBadAheadOfState() {
-        Sentence.of(17, REFUSED_FIRST);
+        Sentence.of(17, Sentence.REFUSED_FIRST);
         Refused.in(State.NEW, "nearest(0, 1) of none", OhmNets.BAD, x -> x.nearest(0, 1));
         Refused.in(State.NEW, "nearest(1, 0) of none", OhmNets.BAD, x -> x.nearest(1, 0));
         Refused.in(State.NEW, "nearest(1001, 1) of none", OhmNets.BAD, x -> x.nearest(1001, 1));
@@ -327,7 +324,7 @@ public final class EdgeShopTest {
     }
 
     private static void traceOfRefusedCalls() {
-        Sentence.of(20, REFUSED_FIRST);
+        Sentence.of(20, Sentence.REFUSED_FIRST);
         OhmNets x = State.SOME.make();
         x.ohms(-1, 0);
         x.ohms(4, 0);

@@ -4,6 +4,9 @@ import java.nio.file.Path;
 
 /** Names the promise and the sentence of ../shared/DOC.md that the answers after it are for. */
 final class Sentence {
+    static final String REFUSED_FIRST = "Refused, and nothing changes, the first of these: BAD (a number is not as told, or "
+        + "there is no such thing), STATE (as told), FULL.";
+
     private static final int PROMISES = 20;
     private static final Path DOCUMENT = Path.of("../shared/DOC.md");
 
